@@ -50,13 +50,12 @@ public final class LostByState {
     private final RuleReader ruleReader = new RuleReader(text, other);
     private final Acts acts = new Acts();
     private final Sharing sharing = new Sharing();
-    private final Draws draws = new Draws();
+    private final Survey survey = new Survey();
+    private final Hearsay hearsay = new Hearsay();
     private final int[] digits = new int[PLACES];
+    private int drawn = 0;
     private int term = 30;
     private int need = 3;
-    private int saidHas = 0;
-    private int saidHasNot = 0;
-    private int saidMany = 0;
 
     public LostByState() {
         for (int i = 0; i < kept.length; i++) {
@@ -231,19 +230,19 @@ public final class LostByState {
         if (!isDescription(marks) || !isThing(thing)) {
             return NONE;
         }
-        return toldMatch(matchOf(inForce, marks, thing, now));
+        return toldMatch(matchOf(marks, thing, now));
     }
 
     public int gets(int marks) {
         if (!isDescription(marks)) {
             return NONE;
         }
-        int best = bestThing(inForce, marks, now);
+        int best = bestThing(marks, now);
         if (best < 0) {
             return NOT_SO;
         }
         told.begin();
-        told.tell(toldMatch(matchOf(inForce, marks, best, now)));
+        told.tell(toldMatch(matchOf(marks, best, now)));
         told.tell(howManyMatch(marks));
         return best;
     }
@@ -252,11 +251,12 @@ public final class LostByState {
         if (!isThing(thing)) {
             return NONE;
         }
+        surveyBy(inForce);
         int least = NONE;
         int many = MARKS + 1;
         for (int marks = 0; marks < DESCRIPTIONS; marks++) {
             int bits = Integer.bitCount(marks);
-            if (bits < many && bestThing(inForce, marks, now) == thing) {
+            if (bits < many && survey.got[marks] == thing) {
                 least = marks;
                 many = bits;
             }
@@ -273,19 +273,10 @@ public final class LostByState {
         if (!isThing(thing)) {
             return NONE;
         }
-        int got = 0;
-        int none = 0;
-        for (int marks = 0; marks < DESCRIPTIONS; marks++) {
-            int best = bestThing(inForce, marks, now);
-            if (best == thing) {
-                got++;
-            } else if (best < 0) {
-                none++;
-            }
-        }
+        surveyBy(inForce);
         told.begin();
-        told.tell(none);
-        return got;
+        told.tell(survey.howManyGet(NONE));
+        return survey.howManyGet(thing);
     }
 
     public int shares() {
@@ -297,7 +288,7 @@ public final class LostByState {
         }
         for (int i = 0; i < lines; i++) {
             for (int t = 0; t < stock.thingMany; t++) {
-                int match = matchOf(inForce, sharing.described[i], t, now);
+                int match = matchOf(sharing.described[i], t, now);
                 sharing.gain[i * MOST_THINGS + t] = putBetween(match, -MOST_MATCH, MOST_MATCH);
             }
         }
@@ -379,7 +370,7 @@ public final class LostByState {
             if (t == thing || !now.isIn(t)) {
                 continue;
             }
-            int match = matchOf(inForce, marks, t, now);
+            int match = matchOf(marks, t, now);
             if (best < 0 || match > most) {
                 best = t;
                 most = match;
@@ -390,7 +381,7 @@ public final class LostByState {
         }
         told.begin();
         told.tell(toldMatch(most));
-        told.tell(toldMatch(matchOf(inForce, marks, thing, now)));
+        told.tell(toldMatch(matchOf(marks, thing, now)));
         return best;
     }
 
@@ -412,23 +403,16 @@ public final class LostByState {
     // ---- which it is
 
     public int said(int mark, int is) {
-        if (mark < 0 || mark >= MARKS || is < 0 || is > 1 || saidMany >= MOST_SAID) {
+        if (mark < 0 || mark >= MARKS || is < 0 || is > 1 || hearsay.many >= MOST_SAID) {
             return NONE;
         }
-        if (is == 1) {
-            saidHas |= 1 << mark;
-        } else {
-            saidHasNot |= 1 << mark;
-        }
-        saidMany++;
-        return saidMany;
+        hearsay.hear(mark, is == 1);
+        return hearsay.many;
     }
 
     public int forget() {
-        int were = saidMany;
-        saidHas = 0;
-        saidHasNot = 0;
-        saidMany = 0;
+        int were = hearsay.many;
+        hearsay.clear();
         return were;
     }
 
@@ -629,7 +613,7 @@ public final class LostByState {
         }
         int together = 1 << deed;
         int needed = stock.needs[deed];
-        // a deed joins in each round but the last, so as many rounds as deeds reach all
+        // each round adds a deed while there is one to add, so as many rounds as deeds reach all
         for (int round = 0; round < stock.deedMany; round++) {
             for (int d = 0; d < stock.deedMany; d++) {
                 if ((stock.needs[d] & needed) != 0) {
@@ -713,8 +697,10 @@ public final class LostByState {
         if (wrong >= 0) {
             return WRONG_LAW - wrong;
         }
-        int byIt = howManyGet(other);
-        int byTheRule = howManyGet(inForce);
+        surveyBy(other);
+        int byIt = DESCRIPTIONS - survey.howManyGet(NONE);
+        surveyBy(inForce);
+        int byTheRule = DESCRIPTIONS - survey.howManyGet(NONE);
         told.begin();
         told.tell(byIt);
         told.tell(byTheRule);
@@ -726,7 +712,7 @@ public final class LostByState {
             return NONE;
         }
         trial.become(now);
-        draws.state = seed;
+        drawn = seed;
         int got = 0;
         for (int i = 0; i < n; i++) {
             if (drawnActGets()) {
@@ -770,7 +756,7 @@ public final class LostByState {
             case 6: return now.heldBy(STATE);
             case 7: return now.lost();
             case 8: return now.inside();
-            case 9: return saidMany;
+            case 9: return hearsay.many;
             case 10: return past.many;
             case 11: return told.many;
             case 12: return text.size;
@@ -881,7 +867,7 @@ public final class LostByState {
     }
 
     private int handOut(Whereabouts at, int who, int marks) {
-        int best = bestThing(inForce, marks, at);
+        int best = bestThing(marks, at);
         if (best < 0) {
             return NOT_SO;
         }
@@ -890,20 +876,24 @@ public final class LostByState {
         return best;
     }
 
-    private int matchOf(Rule by, int marks, int thing, Whereabouts at) {
+    private int matchOf(int marks, int thing, Whereabouts at) {
         int days = Math.max(0, at.days[thing]);
-        return by.valueOf(marks, stock.marks[thing], stock.worths[thing], days, at.day % 7);
+        int has = stock.marks[thing];
+        int both = Integer.bitCount(marks & has);
+        int hasNot = Integer.bitCount(marks & ~has);
+        int untold = Integer.bitCount(has & ~marks);
+        return inForce.valueOf(both, hasNot, untold, stock.worths[thing], days, at.weekday());
     }
 
-    /** The thing that a claim with a description would get by a rule, or -1. */
-    private int bestThing(Rule by, int marks, Whereabouts at) {
+    /** The thing that a claim with a description would get, or -1. */
+    private int bestThing(int marks, Whereabouts at) {
         int best = NONE;
         int most = 0;
         for (int t = 0; t < stock.thingMany; t++) {
             if (!at.isIn(t)) {
                 continue;
             }
-            int match = matchOf(by, marks, t, at);
+            int match = matchOf(marks, t, at);
             if (match >= need && (best < 0 || match > most)) {
                 best = t;
                 most = match;
@@ -915,21 +905,22 @@ public final class LostByState {
     private int howManyMatch(int marks) {
         int many = 0;
         for (int t = 0; t < stock.thingMany; t++) {
-            if (now.isIn(t) && matchOf(inForce, marks, t, now) >= need) {
+            if (now.isIn(t) && matchOf(marks, t, now) >= need) {
                 many++;
             }
         }
         return many;
     }
 
-    private int howManyGet(Rule by) {
-        int many = 0;
-        for (int marks = 0; marks < DESCRIPTIONS; marks++) {
-            if (bestThing(by, marks, now) >= 0) {
-                many++;
+    private void surveyBy(Rule by) {
+        survey.clear();
+        for (int t = 0; t < stock.thingMany; t++) {
+            if (now.isIn(t)) {
+                int has = stock.marks[t];
+                survey.weigh(by, has, stock.worths[t], now.days[t], now.weekday());
+                survey.offer(t, has, need);
             }
         }
-        return many;
     }
 
     private void tellShares(int lines, int inside) {
@@ -947,8 +938,7 @@ public final class LostByState {
     private int fittingThings() {
         int fitting = 0;
         for (int t = 0; t < stock.thingMany; t++) {
-            int marks = stock.marks[t];
-            if ((saidHas & ~marks) == 0 && (saidHasNot & marks) == 0) {
+            if (hearsay.isTrueOf(stock.marks[t])) {
                 fitting |= 1 << t;
             }
         }
@@ -1006,24 +996,29 @@ public final class LostByState {
         return true;
     }
 
+    private int draw(int n) {
+        drawn = drawn * 1103515245 + 12345;
+        return n > 0 ? (drawn >>> 16) % n : 0;
+    }
+
     /** One act that is drawn is done on trial: whether it was a claim that got something. */
     private boolean drawnActGets() {
-        int kind = draws.draw(4);
+        int kind = draw(4);
         if (kind == 0) {
             trial.passDays(1, term);
             return false;
         }
         if (kind == 3) {
-            int who = draws.draw(STATE + 1);
-            int marks = draws.draw(DESCRIPTIONS);
+            int who = draw(STATE + 1);
+            int marks = draw(DESCRIPTIONS);
             return handOut(trial, who, marks) >= 0;
         }
         if (stock.thingMany > 0 && kind == 1) {
-            int thing = draws.draw(stock.thingMany);
-            perform(trial, Acts.LOSE, thing, draws.draw(PLACES));
+            int thing = draw(stock.thingMany);
+            perform(trial, Acts.LOSE, thing, draw(PLACES));
         } else if (stock.thingMany > 0) {
-            int person = draws.draw(PEOPLE);
-            perform(trial, Acts.FIND, person, draws.draw(stock.thingMany));
+            int person = draw(PEOPLE);
+            perform(trial, Acts.FIND, person, draw(stock.thingMany));
         }
         return false;
     }
@@ -1286,6 +1281,10 @@ public final class LostByState {
             return days[thing] >= 0;
         }
 
+        int weekday() {
+            return day % 7;
+        }
+
         int heldBy(int who) {
             int bits = 0;
             for (int t = 0; t < MOST_THINGS; t++) {
@@ -1445,10 +1444,10 @@ public final class LostByState {
             }
         }
 
-        int valueOf(int described, int marks, int worth, int days, int weekday) {
-            named[0] = Integer.bitCount(described & marks);
-            named[1] = Integer.bitCount(described & ~marks);
-            named[2] = Integer.bitCount(marks & ~described);
+        int valueOf(int both, int hasNot, int untold, int worth, int days, int weekday) {
+            named[0] = both;
+            named[1] = hasNot;
+            named[2] = untold;
             named[3] = worth;
             named[4] = days;
             named[5] = weekday;
@@ -1718,13 +1717,75 @@ public final class LostByState {
         }
     }
 
-    /** Numbers drawn by a seed. */
-    private static final class Draws {
-        private int state = 0;
+    /** What was said of a thing: marks that it has, marks that it has not. */
+    private static final class Hearsay {
+        private int has = 0;
+        private int hasNot = 0;
+        private int many = 0;
 
-        int draw(int n) {
-            state = state * 1103515245 + 12345;
-            return n > 0 ? (state >>> 16) % n : 0;
+        void hear(int mark, boolean isThere) {
+            if (isThere) {
+                has |= 1 << mark;
+            } else {
+                hasNot |= 1 << mark;
+            }
+            many++;
+        }
+
+        void clear() {
+            has = 0;
+            hasNot = 0;
+            many = 0;
+        }
+
+        boolean isTrueOf(int marks) {
+            return (has & ~marks) == 0 && (hasNot & marks) == 0;
+        }
+    }
+
+    /** Which thing each of all descriptions would get (-1: none). */
+    private static final class Survey {
+        private static final int COUNTS = MARKS + 1;
+        private final int[] got = new int[DESCRIPTIONS];
+        private final int[] most = new int[DESCRIPTIONS];
+        private final int[] matches = new int[COUNTS * COUNTS];
+
+        void clear() {
+            for (int marks = 0; marks < DESCRIPTIONS; marks++) {
+                got[marks] = NONE;
+            }
+        }
+
+        /** A rule asks only how many marks match, so 25 values at most serve for 256 descriptions. */
+        void weigh(Rule by, int has, int worth, int days, int weekday) {
+            int all = Integer.bitCount(has);
+            for (int both = 0; both <= all; both++) {
+                for (int hasNot = 0; hasNot <= MARKS - all; hasNot++) {
+                    matches[both * COUNTS + hasNot] =
+                        by.valueOf(both, hasNot, all - both, worth, days, weekday);
+                }
+            }
+        }
+
+        void offer(int thing, int has, int need) {
+            for (int marks = 0; marks < DESCRIPTIONS; marks++) {
+                int both = Integer.bitCount(marks & has);
+                int match = matches[both * COUNTS + Integer.bitCount(marks) - both];
+                if (match >= need && (got[marks] < 0 || match > most[marks])) {
+                    got[marks] = thing;
+                    most[marks] = match;
+                }
+            }
+        }
+
+        int howManyGet(int thing) {
+            int many = 0;
+            for (int marks = 0; marks < DESCRIPTIONS; marks++) {
+                if (got[marks] == thing) {
+                    many++;
+                }
+            }
+            return many;
         }
     }
 }

@@ -636,7 +636,7 @@ public final class PromiseTests {
         dueRow("19: match is put", x, 1999, 1);
         LostByState rich = full("9", "0");
         rich.set(1, -99);
-        for (int i = 0; i < 6; i++) {
+        for (int i = 0; i < 2; i++) {
             for (int j = 0; j < 70; j++) {
                 rich.claim(6, 0);
                 rich.loses(0, 0);
