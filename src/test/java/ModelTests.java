@@ -32,10 +32,12 @@ public final class ModelTests {
         private final Model m = new Model();
         private final List<String> log = new ArrayList<>();
         private final boolean wild;
+        private final boolean busy;
 
         Run(int seed) {
             random = new Random(seed);
             wild = seed % 7 == 0;
+            busy = seed % 2 == 0;
         }
 
         private int any(int low, int high) {
@@ -195,6 +197,9 @@ public final class ModelTests {
                 long got;
                 long want;
                 int kind = i < 3 && !wild ? 2 + i % 2 : random.nextInt(52);
+                if (busy && i % 40 == 4) {
+                    bringAllIn();
+                }
                 try {
                     long[] both = call(kind);
                     got = both[0];
@@ -212,6 +217,17 @@ public final class ModelTests {
                 }
             }
             return null;
+        }
+
+        /** Most calls ask about what is in, and chance alone brings little there. */
+        private void bringAllIn() {
+            for (int t = 0; t < m.marks.size(); t++) {
+                if (random.nextInt(6) != 0) {
+                    int p = random.nextInt(6);
+                    both("loses " + t + " 0", x.loses(t, 0), m.noted("l", t, 0));
+                    both("finds " + p + " " + t, x.finds(p, t), m.noted("f", p, t));
+                }
+            }
         }
 
         private String tail() {
