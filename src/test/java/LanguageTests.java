@@ -140,8 +140,11 @@ public final class LanguageTests {
             (com.sun.management.ThreadMXBean) ManagementFactory.getThreadMXBean();
         long id = Thread.currentThread().getId();
         for (int turn = 0; turn < 2; turn++) {
+            long empty = bean.getThreadAllocatedBytes(id);
             LostByState x = new LostByState();
             long before = bean.getThreadAllocatedBytes(id);
+            due("rule 12: " + (before - empty) + " bytes of an object", turn == 0 || before - empty < 32768);
+            before = bean.getThreadAllocatedBytes(id);
             int sum = 0;
             for (int i = 0; i < 20; i++) {
                 sum += calls(x, i);
